@@ -577,7 +577,7 @@ public final class HairProvince {
         int best = MAX_EVERY + 1;
         for (int i = 0; i < now.dinners; i++) {
             if (now.isAt(i, person)) {
-                best = Math.min(best, now.daysToDinner(i));
+                best = Math.min(best, now.dinnerFact(i, 2) - now.daysSinceDinner(i));
             }
         }
         return best > MAX_EVERY ? fail(NOTHING) : give(best);
@@ -609,7 +609,7 @@ public final class HairProvince {
         return within(n, 0, MAX_TWOS) ? FINE : BAD_NUMBER;
     }
 
-    /** The STATUS of twos of DAYS and a length; where it is FINE, all sets that fit are gathered. */
+    /** The STATUS of twos of DAYS and a length; where it is FINE, fits holds the sets. */
     private int gather(int tray, int n) {
         int why = twosStatus(tray, n);
         if (why != FINE) {
@@ -1012,7 +1012,7 @@ public final class HairProvince {
         private void split(int n) {
             length = Math.min(n, tapeSize);
             rowSize = 0;
-            next = 0;
+            next = NONE;
             fault = 0;
             faultPlace = NONE;
             int at = 0;
@@ -1029,7 +1029,7 @@ public final class HairProvince {
                 }
             }
             add(END, length, 0);
-            look();
+            take();
         }
 
         private int byteAt(int i) {
@@ -1113,20 +1113,17 @@ public final class HairProvince {
             }
         }
 
-        /** What comes next; behind the last TOKEN it is the END still. */
-        private void look() {
-            int at = Math.min(next, rowSize - 1);
-            long token = at >= 0 && at < row.length ? row[at] : 0;
-            kind = (int) token & 15;
-            place = (int) (token >> 4) & 4095;
-            value = token >> 16;
-        }
-
+        /** The next TOKEN comes; behind the last it is the END still. */
         private void take() {
             takenPlace = place;
             takenValue = value;
-            next++;
-            look();
+            if (next < rowSize - 1) {
+                next++;
+            }
+            long token = next >= 0 && next < row.length ? row[next] : 0;
+            kind = (int) token & 15;
+            place = (int) (token >> 4) & 4095;
+            value = token >> 16;
         }
 
         private boolean isEnd() {
@@ -1229,8 +1226,8 @@ public final class HairProvince {
         private static final int FIRST_ODDS = 1;
         private static final int DINNER_FACTS = 3;
 
-        private final long[] wordNames = new long[MAX_WORDS];
-        private final long[] peopleNames = new long[MAX_PEOPLE];
+        /** NAMES as numbers: of WORDS, then of PEOPLE from MAX_WORDS on. */
+        private final long[] names = new long[MAX_WORDS + MAX_PEOPLE];
         private final int[] grows = new int[MAX_WORDS];
         private final int[] greys = new int[MAX_WORDS];
         private final int[] otherHalves = new int[MAX_WORDS];
@@ -1267,8 +1264,7 @@ public final class HairProvince {
         }
 
         private void copyFrom(Province p) {
-            System.arraycopy(p.wordNames, 0, wordNames, 0, MAX_WORDS);
-            System.arraycopy(p.peopleNames, 0, peopleNames, 0, MAX_PEOPLE);
+            System.arraycopy(p.names, 0, names, 0, MAX_WORDS + MAX_PEOPLE);
             System.arraycopy(p.grows, 0, grows, 0, MAX_WORDS);
             System.arraycopy(p.greys, 0, greys, 0, MAX_WORDS);
             System.arraycopy(p.otherHalves, 0, otherHalves, 0, MAX_WORDS);
@@ -1312,7 +1308,7 @@ public final class HairProvince {
 
         private int findWord(long name) {
             for (int w = 0; w < words && w < MAX_WORDS; w++) {
-                if (wordNames[w] == name) {
+                if (names[w] == name) {
                     return w;
                 }
             }
@@ -1321,7 +1317,7 @@ public final class HairProvince {
 
         private int findPerson(long name) {
             for (int p = 0; p < people && p < MAX_PEOPLE; p++) {
-                if (peopleNames[p] == name) {
+                if (names[MAX_WORDS + p] == name) {
                     return p;
                 }
             }
@@ -1330,7 +1326,7 @@ public final class HairProvince {
 
         private void addWord(long name, int growing, int grey) {
             if (words < MAX_WORDS) {
-                wordNames[words] = name;
+                names[words] = name;
                 grows[words] = growing;
                 greys[words] = grey;
                 otherHalves[words] = 0;
@@ -1340,7 +1336,7 @@ public final class HairProvince {
 
         private void addPerson(long name, int temper, boolean barber, int keeping) {
             if (people < MAX_PEOPLE) {
-                peopleNames[people] = name;
+                names[MAX_WORDS + people] = name;
                 tempers[people] = temper;
                 knows[people] = keeping;
                 keeps[people] = keeping;
@@ -1406,14 +1402,12 @@ public final class HairProvince {
         }
 
         private int hairOf(int p) {
-            if (!isPerson(p)) {
+            if (p < 0 || p >= MAX_PEOPLE) {
                 return 0;
             }
             int hair = 0;
             for (int w = 0; w < words && w < MAX_WORDS; w++) {
-                if ((keeps[p] >> w & 1) == 1) {
-                    hair += lengths[p * MAX_WORDS + w];
-                }
+                hair += (keeps[p] >> w & 1) == 1 ? lengths[p * MAX_WORDS + w] : 0;
             }
             return hair;
         }
@@ -1426,9 +1420,9 @@ public final class HairProvince {
             return hair;
         }
 
-        /** Of the WORDS in a set that a PERSON KEEPS that of the longest STRAND, the first of several. */
+        /** Of the WORDS in a set that a PERSON KEEPS that of the longest STRAND. */
         private int longestOf(int p, int set) {
-            if (!isPerson(p)) {
+            if (p < 0 || p >= MAX_PEOPLE) {
                 return NONE;
             }
             int best = NONE;
@@ -1499,7 +1493,10 @@ public final class HairProvince {
                 }
                 date++;
                 for (int d = 0; d < dinners && d < MAX_DINNERS; d++) {
-                    dine(d);
+                    if (daysSinceDinner(d) == 0) {
+                        blurt(dinnerFact(d, 0), dinnerFact(d, 1));
+                        blurt(dinnerFact(d, 1), dinnerFact(d, 0));
+                    }
                 }
             }
             return saidAtDinners - before;
@@ -1520,14 +1517,10 @@ public final class HairProvince {
             return isWord(w) ? grows[w] * Math.min(days, Math.max(0, greys[w] - age)) : 0;
         }
 
-        private void dine(int d) {
+        /** How many DAYS ago a DINNER was due; NONE if there is no such DINNER. */
+        private int daysSinceDinner(int d) {
             int every = dinnerFact(d, 2);
-            if (every > 0 && date % every == 0) {
-                int first = dinnerFact(d, 0);
-                int second = dinnerFact(d, 1);
-                blurt(first, second);
-                blurt(second, first);
-            }
+            return every > 0 ? date % every : NONE;
         }
 
         private void blurt(int p, int to) {
@@ -1549,11 +1542,6 @@ public final class HairProvince {
             return dinnerFact(d, 0) == p || dinnerFact(d, 1) == p;
         }
 
-        private int daysToDinner(int d) {
-            int every = dinnerFact(d, 2);
-            return every > 0 ? every - date % every : MAX_EVERY + 1;
-        }
-
         /** All who share a DINNER with somebody of a set. */
         private int companions(int set) {
             int found = 0;
@@ -1566,7 +1554,7 @@ public final class HairProvince {
             return found;
         }
 
-        /** How long a PERSON's STRANDS of a set of WORDS are in so many DAYS, if he KEEPS them on. */
+        /** How long a PERSON's STRANDS of a set of WORDS, KEPT on, are in so many DAYS. */
         private int hairKept(int p, int set, int days) {
             int hair = 0;
             for (int w = 0; w < words && w < MAX_WORDS; w++) {
@@ -1684,7 +1672,7 @@ public final class HairProvince {
             return name;
         }
 
-        /** The NUMBER behind LETTERS that may stand there, or what is so without; NONE with a FAULT. */
+        /** The NUMBER behind LETTERS that may stand there, or that without; NONE with a FAULT. */
         private static int takePerhaps(Tokens t, int key, int least, int most, int without) {
             if (t.keyNext() != key) {
                 return without;
@@ -1795,7 +1783,7 @@ public final class HairProvince {
         }
     }
 
-    /** YEARS as a row of orders: STEPS and the ends of their blocks, told by their LETTERS' numbers. */
+    /** YEARS as a row of orders: STEPS and the ends of their blocks, by their LETTERS' numbers. */
     private static final class Years {
         private static final int MAX_STEPS = 30;
         private static final int MAX_ORDERS = 2 * MAX_STEPS;
@@ -2344,7 +2332,7 @@ public final class HairProvince {
         }
     }
 
-    /** A GAME of two; behind each turn there is a level of its own, so that no turn is taken back. */
+    /** A GAME of two; each turn has a level of its own, so that none is taken back. */
     private static final class Duel {
         private static final int SIDES = 2;
         private static final int HEADS = (MAX_GAME_TURNS + 1) * SIDES;
@@ -2364,7 +2352,7 @@ public final class HairProvince {
             }
             seat(p, first, 0);
             seat(p, second, 1);
-            return best(p, 0, turns);
+            return best(this, p, 0, turns);
         }
 
         private void seat(Province p, int person, int head) {
@@ -2374,25 +2362,27 @@ public final class HairProvince {
             System.arraycopy(p.ages, person * MAX_WORDS, ages, head * MAX_WORDS, MAX_WORDS);
         }
 
-        private int best(Province p, int level, int turns) {
+        private static int best(Duel d, Province p, int level, int turns) {
             int head = level * SIDES;
             if (level >= turns || level >= MAX_GAME_TURNS) {
-                return hairOf(p, head + 1) - hairOf(p, head);
+                return d.hairAt(p, head + 1) - d.hairAt(p, head);
             }
             int side = level % SIDES;
             int best = 0;
             boolean found = false;
             // Behind all WORDS comes saying nothing.
             for (int w = 0; w <= p.words; w++) {
-                if (w < p.words && !canSay(head + side, head + 1 - side, w)) {
+                if (w < p.words && !d.canSay(head + side, head + 1 - side, w)) {
                     continue;
                 }
-                turn(p, level, w);
-                int value = best(p, level + 1, turns);
+                d.turn(p, level, w);
+                int value = best(d, p, level + 1, turns);
                 if (!found || (side == 0 ? value > best : value < best)) {
                     found = true;
                     best = value;
-                    opening = level > 0 ? opening : w < p.words ? w : NONE;
+                    if (level == 0) {
+                        d.opening = w < p.words ? w : NONE;
+                    }
                 }
             }
             return best;
@@ -2442,7 +2432,7 @@ public final class HairProvince {
             }
         }
 
-        private int hairOf(Province p, int head) {
+        private int hairAt(Province p, int head) {
             int hair = 0;
             for (int w = 0; w < p.words && w < MAX_WORDS; w++) {
                 hair += (keeps[head] >> w & 1) == 1 ? lengths[head * MAX_WORDS + w] : 0;
