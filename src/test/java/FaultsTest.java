@@ -50,6 +50,8 @@ public final class FaultsTest {
         C.provinceFault(x(), "day 1;", 2, 0);
         C.provinceFault(x(), "heard;", 2, 5);
         C.provinceFault(x(), "heard a;", 2, 6);
+        C.provinceFault(x(), "heard abcdefghi;", 2, 6);
+        C.provinceFault(x(), "abcdefghijklmnopqrstuvwxyz", 2, 0);
         C.provinceFault(x(), "heard 3", 2, 7);
         C.provinceFault(x(), "heard 3  \n", 2, 10);
         C.provinceFault(x(), "heard 3 4;", 2, 8);

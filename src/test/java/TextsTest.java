@@ -64,6 +64,8 @@ public final class TextsTest {
         C.provinceFault(x, "word a;;", 2, 7);
         C.gives(x, "many(6) behind a FAULT", x.many(6), 3);
         C.gives(x, "live(0) behind a FAULT", x.live(0), 2);
+        // Neither what became of the old one nor what was tried on it is left.
+        x.hairIn(0, 30);
         C.province(x, "heard3;odds 0;");
         C.gives(x, "many(4)", x.many(4), 3);
         C.gives(x, "many(5)", x.many(5), 0);
@@ -80,6 +82,13 @@ public final class TextsTest {
         C.gives(x, "person(0, 0)", x.person(0, 0), 999);
         C.gives(x, "person(0, 1)", x.person(0, 1), 1);
         C.gives(x, "person(0, 3)", x.person(0, 3), 0);
+        C.province(x, "word a;word b;person p keeps a b;halves a b;");
+        x.day(5);
+        C.province(x, "word a;word b;person p keeps a;");
+        C.gives(x, "word(0, 4) without HALVES", x.word(0, 4), 0);
+        C.gives(x, "person(0, 3)", x.person(0, 3), 1);
+        C.gives(x, "strand(0, 0, 0)", x.strand(0, 0, 0), 0);
+        C.gives(x, "strand(0, 0, 1)", x.strand(0, 0, 1), 0);
         C.province(x, "");
         C.gives(x, "many(4) without", x.many(4), 3);
         C.gives(x, "many(5) without", x.many(5), 1);

@@ -85,6 +85,9 @@ public final class YearsTest {
         C.gives(x, "live(0)", x.live(0), 8);
         lived(x, "hair", 0, 1, 0, 0, 0);
         C.gives(x, "person(0, 4)", x.person(0, 4), 3);
+        C.years(x, "loop 2;when hair p>0;day 1;end;end;day 1;", 4);
+        C.gives(x, "live(0): a when within a loop", x.live(0), 6);
+        C.gives(x, "lived(1)", x.lived(1), 3);
         C.years(x, "loop 3;day 1;loop 2;any;end;end;day 5;", 5);
         C.gives(x, "live(0): loop, three times day, loop, two any, then day", x.live(0), 1 + 3 * 4 + 1);
         C.gives(x, "lived(1)", x.lived(1), 8);
