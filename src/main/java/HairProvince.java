@@ -2147,6 +2147,8 @@ public final class HairProvince {
 
         private final int[] sets = new int[MAX_SETS];
         private int size;
+        /** Of each set, whether it fits or not: how long it is in the DAYS that were measured last. */
+        private final int[] lengths = new int[MAX_SETS];
         /** A bit for each length. */
         private final long[] seen = new long[MAX_LENGTH / 64 + 1];
 
@@ -2158,10 +2160,19 @@ public final class HairProvince {
             }
         }
 
+        /** Each set is as long as that without its first WORD, and this WORD. */
+        private void measure(Province p, int days) {
+            for (int set = 1; set < MAX_SETS && set < 1 << p.words; set++) {
+                int first = Integer.numberOfTrailingZeros(set);
+                lengths[set] = lengths[set & set - 1] + p.growthOf(first, 0, days);
+            }
+        }
+
         private void sift(Province p, int days, long length) {
+            measure(p, days);
             int left = 0;
             for (int i = 0; i < size && i < MAX_SETS; i++) {
-                if (p.grownTogether(sets[i], days) == length) {
+                if (lengths[sets[i]] == length) {
                     sets[left] = sets[i];
                     left++;
                 }
@@ -2180,8 +2191,10 @@ public final class HairProvince {
         private int tellingDays(Province p) {
             int best = 0;
             int most = 0;
-            for (int d = 1; d <= MAX_ASKED_DAYS; d++) {
-                int unlike = unlikeLengths(p, d);
+            // There are no more unlike lengths than sets.
+            for (int d = 1; d <= MAX_ASKED_DAYS && most < size; d++) {
+                measure(p, d);
+                int unlike = unlikeLengths();
                 if (unlike > most) {
                     most = unlike;
                     best = d;
@@ -2190,13 +2203,13 @@ public final class HairProvince {
             return best;
         }
 
-        private int unlikeLengths(Province p, int days) {
+        private int unlikeLengths() {
             for (int i = 0; i < seen.length; i++) {
                 seen[i] = 0;
             }
             int unlike = 0;
             for (int i = 0; i < size && i < MAX_SETS; i++) {
-                int length = p.grownTogether(sets[i], days);
+                int length = lengths[sets[i]];
                 int at = length / 64;
                 if (at >= 0 && at < seen.length && (seen[at] >> length % 64 & 1) == 0) {
                     seen[at] |= 1L << length % 64;
