@@ -2160,11 +2160,13 @@ public final class HairProvince {
             }
         }
 
-        /** Each set is as long as that without its first WORD, and this WORD. */
+        /** Each set is as long as that without its last WORD, and this WORD; that of none is 0 long. */
         private void measure(Province p, int days) {
-            for (int set = 1; set < MAX_SETS && set < 1 << p.words; set++) {
-                int first = Integer.numberOfTrailingZeros(set);
-                lengths[set] = lengths[set & set - 1] + p.growthOf(first, 0, days);
+            for (int w = 0; w < p.words && w < MAX_WORDS; w++) {
+                int growth = p.growthOf(w, 0, days);
+                for (int set = 0; set < 1 << w; set++) {
+                    lengths[set | 1 << w] = lengths[set] + growth;
+                }
             }
         }
 

@@ -638,7 +638,7 @@ public final class EdgesTest {
     private static void grey() {
         for (int grey : new int[] {1, 2, 30, 98, 99}) {
             HairProvince x = C.land("word a grows 9" + (grey == 30 ? "" : " grey " + grey) + ";person p temper 999 keeps a;");
-            for (int day = 1; day <= 101; day++) {
+            for (int day = 1; day <= 100; day++) {
                 x.day(1);
                 C.gives(x, "strand(0, 0, 0) of grey " + grey + " on DAY " + day, x.strand(0, 0, 0), 9 * Math.min(day, grey));
                 C.gives(x, "strand(0, 0, 1) on DAY " + day, x.strand(0, 0, 1), day);

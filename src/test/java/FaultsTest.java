@@ -16,6 +16,9 @@ public final class FaultsTest {
         yearsNamesAndNumbers();
         yearsLimits();
         yearsTaken();
+        longestTokens();
+        longestTexts();
+        leastKind();
         C.end();
     }
 
@@ -236,5 +239,98 @@ public final class FaultsTest {
         C.years(y, "", 0);
         C.years(y, " \n ", 0);
         C.gives(y, "live(0) of no STEPS", y.live(0), 0);
+    }
+
+    /** LETTERS of 8 and of 9 wherever a NAME must stand, NUMBERS of 4 digits and of 5 wherever one must. */
+    private static void longestTokens() {
+        String eight = "word wwwwwwww;word vvvvvvvv;person pppppppp keeps wwwwwwww vvvvvvvv;person qqqqqqqq barber;"
+            + "dinner pppppppp qqqqqqqq every 0030;halves wwwwwwww vvvvvvvv;";
+        C.province(x(), eight);
+        for (char c : new char[] {'w', 'v', 'p', 'q'}) {
+            String name = ("" + c).repeat(8);
+            for (int at = eight.indexOf(name); at >= 0; at = eight.indexOf(name, at + 8)) {
+                C.provinceFault(x(), eight.substring(0, at) + c + eight.substring(at), 2, at);
+            }
+        }
+        HairProvince y = C.land(eight);
+        String life = "keep pppppppp wwwwwwww;say pppppppp vvvvvvvv to qqqqqqqq;cut pppppppp by qqqqqqqq;"
+            + "when knows qqqqqqqq wwwwwwww;end;when hair pppppppp > 9999;end;day 0020;loop 0099;end;";
+        C.years(y, life, 7);
+        for (char c : new char[] {'w', 'v', 'p', 'q'}) {
+            String name = ("" + c).repeat(8);
+            for (int at = life.indexOf(name); at >= 0; at = life.indexOf(name, at + 8)) {
+                C.yearsFault(C.land(eight), life.substring(0, at) + c + life.substring(at), 2, at);
+                // The same NAME but for its last letter is no such one.
+                C.yearsFault(C.land(eight), life.substring(0, at + 7) + life.substring(at + 8), 3, at);
+            }
+        }
+        for (String number : new String[] {"9999", "0020", "0099"}) {
+            int at = life.indexOf(number);
+            C.yearsFault(y, life.substring(0, at) + "0" + life.substring(at), 1, at);
+        }
+        for (String before : new String[] {"heard ", "odds ", "word a grows ", "word a grey ", "person a temper ",
+            "person a;person b;dinner a b every "}) {
+            C.provinceFault(x(), before + "9999;", 4, before.length());
+            C.provinceFault(x(), before + "10000;", 1, before.length());
+            C.provinceFault(x(), before + "00001;", 1, before.length());
+            // 2 to the 32nd and to the 64th, and 1 more: a NUMBER does not wrap around.
+            C.provinceFault(x(), before + "4294967297;", 1, before.length());
+            C.provinceFault(x(), before + "18446744073709551617;", 1, before.length());
+            C.province(x(), before + "0001;");
+        }
+        // NAMES that differ in their last letters, or in how many these are, are unlike.
+        C.province(x(), "word a;word aa;word aaa;word aaaaaaaa;word aaaaaaab;word zzzzzzzz;word zzzzzzzy;word z;"
+            + "person b;person ba;person ab;person az;person bz;person zzzzzzz;");
+    }
+
+    /** A PROVINCE of 900 bytes, YEARS of 300: all bytes count, the end is just behind them. */
+    private static void longestTexts() {
+        C.province(x(), "word a;" + " ".repeat(892) + "\n");
+        C.province(x(), "word a" + "\n".repeat(893) + ";");
+        C.provinceFault(x(), "word a;" + " ".repeat(892) + "!", 1, 899);
+        C.provinceFault(x(), "word a" + " ".repeat(894), 2, 900);
+        C.provinceFault(x(), "word a;" + " ".repeat(889) + "word", 2, 900);
+        C.provinceFault(x(), ";".repeat(900), 2, 0);
+        C.provinceFault(x(), "1".repeat(900), 1, 0);
+        C.provinceFault(x(), "a".repeat(900), 2, 0);
+        C.provinceFault(x(), "word " + "a".repeat(895), 2, 5);
+        C.provinceFault(x(), "heard " + "0".repeat(894), 1, 6);
+        HairProvince y = land();
+        C.years(y, "any;" + " ".repeat(292) + "any;", 2);
+        C.years(y, "loop 2;" + " ".repeat(289) + "end;", 1);
+        C.yearsFault(y, "any;" + " ".repeat(293) + "any", 2, 300);
+        C.yearsFault(y, "loop 2;" + " ".repeat(293), 2, 300);
+        C.yearsFault(y, "any;" + " ".repeat(295) + "9", 2, 299);
+        C.yearsFault(y, "any;" + " ".repeat(295) + "A", 1, 299);
+        C.years(y, "say ann love to dot;".repeat(15), 15);
+    }
+
+    /** Of one TOKEN the least kind; of several TOKENS the first, of whatever kind. */
+    private static void leastKind() {
+        C.provinceFault(x(), "word a;word 12345", 1, 12);
+        C.provinceFault(x(), "12345 word", 1, 0);
+        C.provinceFault(x(), "word a;halves a abcdefghi;", 2, 16);
+        C.provinceFault(x(), "word a;halves a halves;", 2, 16);
+        C.provinceFault(x(), "heard 3;heard 12345;", 5, 8);
+        C.provinceFault(x(), "word a;word a grows 99;!", 3, 12);
+        C.provinceFault(x(), "person a;dinner a a every 99;", 5, 18);
+        C.provinceFault(x(), "person a;dinner a b every 99;", 3, 18);
+        C.provinceFault(x(), "word a grows 99 grey 999;word a;", 4, 13);
+        C.provinceFault(x(), "word a;person p keeps a a b;", 5, 24);
+        C.provinceFault(x(), "word a;person p keeps a b a;", 3, 24);
+        HairProvince y = land();
+        String three = "loop 1;loop 1;loop 1;";
+        C.yearsFault(y, three + "any;".repeat(27) + "when hair eve>12345;", 6, three.length() + 108);
+        C.yearsFault(y, three + "loop 100;", 7, three.length());
+        C.yearsFault(y, three + "end;end;end;end;", 2, three.length() + 12);
+        C.years(y, three + "end;loop 1;end;end;when knows ann plot;end;end;", 5);
+        C.yearsFault(y, "any;".repeat(30) + "days 1;", 2, 120);
+        C.yearsFault(y, "any;".repeat(30) + "?", 1, 120);
+        C.yearsFault(y, "loop 0;loop 0;", 4, 5);
+        C.yearsFault(y, "loop 100 loop", 4, 5);
+        C.yearsFault(y, "when hair eve>12345;end;", 3, 10);
+        C.yearsFault(y, "when hair ann>12345;end;", 1, 14);
+        C.yearsFault(y, "when hair ann!12345;end;", 1, 13);
+        C.yearsFault(y, "say ann love to dot", 2, 19);
     }
 }
