@@ -5,6 +5,7 @@ public final class TwoTest {
     public static void main(String[] args) {
         games();
         moves();
+        beginnings();
         gameStatuses();
         safe();
         riskiest();
@@ -67,6 +68,25 @@ public final class TwoTest {
         z.day(1);
         C.gives(z, "game(0, 1, 1): 5 + 5 - 0", z.game(0, 1, 1), 10);
         C.gives(z, "game(0, 1, 2): each says his, 5 - 5", z.game(0, 1, 2), 0);
+    }
+
+    /** Each way to begin starts from the same HAIR, as old as it is, whatever was tried ahead of it. */
+    private static void beginnings() {
+        HairProvince x = C.land("word a grows 1 grey 1;word b grows 3 grey 9;person p keeps a b;person q;");
+        x.day(2);
+        // a is grey with 1, b 6: b said is 3 with q, and a stays 1; a said is 1 with q, and b becomes 9.
+        C.gives(x, "game(0, 1, 1)", x.game(0, 1, 1), 2);
+        C.gives(x, "moveOf(0, 1, 1)", x.moveOf(0, 1, 1), 1);
+        C.gives(x, "game(0, 1, 1) again", x.game(0, 1, 1), 2);
+        HairProvince y = C.land("word a grey 3;word b grows 2 grey 3;word c grey 3;word d grey 3;word e grey 3;"
+            + "word f grey 3;word g grey 3;word h grey 3;person p keeps a b c d e f g h;person q;");
+        y.day(3);
+        // b said: 2 with q, seven times 3 with p.
+        C.gives(y, "game(0, 1, 1) of eight", y.game(0, 1, 1), 2 - 21);
+        C.gives(y, "moveOf(0, 1, 1) of eight", y.moveOf(0, 1, 1), 1);
+        // Then q says nothing, having nothing to say; then any other: q has 6 and 1, p six times 3.
+        C.gives(y, "game(0, 1, 3) of eight", y.game(0, 1, 3), 7 - 18);
+        C.gives(y, "game(1, 0, 3) of eight: p says b", y.game(1, 0, 3), 21 - 4);
     }
 
     private static void gameStatuses() {
