@@ -351,8 +351,7 @@ public final class HairProvince {
         if (!now.isKept(person, word)) {
             return fail(NOTHING);
         }
-        int at = person * MAX_WORDS + word;
-        return give(what == 0 ? now.lengths[at] : now.ages[at]);
+        return give(what == 0 ? now.strandLength(person, word) : now.strandAge(person, word));
     }
 
     public int dinner(int dinner, int what) {
@@ -562,7 +561,7 @@ public final class HairProvince {
         }
         spare.copyFrom(now);
         for (int d = 0; d <= MAX_AHEAD; d++) {
-            if (spare.isWild(person)) {
+            if (spare.hairOf(person) > spare.tempers[person]) {
                 return give(d);
             }
             spare.passDays(1);
@@ -1234,9 +1233,10 @@ public final class HairProvince {
         private final int[] tempers = new int[MAX_PEOPLE];
         private final int[] knows = new int[MAX_PEOPLE];
         private final int[] keeps = new int[MAX_PEOPLE];
-        /** STRANDS: PERSON by PERSON, WORD by WORD. */
-        private final int[] lengths = new int[MAX_PEOPLE * MAX_WORDS];
-        private final int[] ages = new int[MAX_PEOPLE * MAX_WORDS];
+        /** STRANDS, PERSON by PERSON, WORD by WORD: the DAY on which each began. */
+        private final int[] begun = new int[MAX_PEOPLE * MAX_WORDS];
+        /** The DAY on which each was 0 long last; how it grew since follows from the DAY it is. */
+        private final int[] shorn = new int[MAX_PEOPLE * MAX_WORDS];
         /** DINNER by DINNER: the first, the second, EVERY. */
         private final int[] dinnerFacts = new int[MAX_DINNERS * DINNER_FACTS];
         private int words;
@@ -1271,8 +1271,8 @@ public final class HairProvince {
             System.arraycopy(p.tempers, 0, tempers, 0, MAX_PEOPLE);
             System.arraycopy(p.knows, 0, knows, 0, MAX_PEOPLE);
             System.arraycopy(p.keeps, 0, keeps, 0, MAX_PEOPLE);
-            System.arraycopy(p.lengths, 0, lengths, 0, MAX_PEOPLE * MAX_WORDS);
-            System.arraycopy(p.ages, 0, ages, 0, MAX_PEOPLE * MAX_WORDS);
+            System.arraycopy(p.begun, 0, begun, 0, MAX_PEOPLE * MAX_WORDS);
+            System.arraycopy(p.shorn, 0, shorn, 0, MAX_PEOPLE * MAX_WORDS);
             System.arraycopy(p.dinnerFacts, 0, dinnerFacts, 0, MAX_DINNERS * DINNER_FACTS);
             words = p.words;
             people = p.people;
@@ -1342,8 +1342,8 @@ public final class HairProvince {
                 keeps[people] = keeping;
                 barbers |= barber ? 1 << people : 0;
                 for (int w = 0; w < MAX_WORDS; w++) {
-                    lengths[people * MAX_WORDS + w] = 0;
-                    ages[people * MAX_WORDS + w] = 0;
+                    begun[people * MAX_WORDS + w] = date;
+                    shorn[people * MAX_WORDS + w] = date;
                 }
                 people++;
             }
@@ -1401,15 +1401,27 @@ public final class HairProvince {
             return set;
         }
 
-        private int hairOf(int p) {
-            if (p < 0 || p >= MAX_PEOPLE) {
+        /** How long a STRAND is on a DAY that began on one, and was 0 long last on another one. */
+        private int lengthOn(int day, int w, int beginning, int bare) {
+            if (w < 0 || w >= MAX_WORDS) {
                 return 0;
             }
-            int hair = 0;
-            for (int w = 0; w < words && w < MAX_WORDS; w++) {
-                hair += (keeps[p] >> w & 1) == 1 ? lengths[p * MAX_WORDS + w] : 0;
-            }
-            return hair;
+            int greyDay = beginning + greys[w];
+            int grownTill = day < greyDay ? day : greyDay;
+            return grownTill > bare ? grows[w] * (grownTill - bare) : 0;
+        }
+
+        private int strandLength(int p, int w) {
+            int at = p * MAX_WORDS + w;
+            return isKept(p, w) ? lengthOn(date, w, begun[at], shorn[at]) : 0;
+        }
+
+        private int strandAge(int p, int w) {
+            return isKept(p, w) ? Math.min(date - begun[p * MAX_WORDS + w], MAX_AGE) : 0;
+        }
+
+        private int hairOf(int p) {
+            return isPerson(p) ? hairKept(p, keeps[p], 0) : 0;
         }
 
         private int allHair() {
@@ -1422,16 +1434,14 @@ public final class HairProvince {
 
         /** Of the WORDS in a set that a PERSON KEEPS that of the longest STRAND. */
         private int longestOf(int p, int set) {
-            if (p < 0 || p >= MAX_PEOPLE) {
-                return NONE;
-            }
             int best = NONE;
             int most = NONE;
             for (int w = 0; w < words && w < MAX_WORDS; w++) {
-                int at = p * MAX_WORDS + w;
-                if ((keeps[p] & set & 1 << w) != 0 && lengths[at] > most) {
-                    most = lengths[at];
-                    best = w;
+                if ((set >> w & 1) == 1 && isKept(p, w)) {
+                    int at = p * MAX_WORDS + w;
+                    int length = lengthOn(date, w, begun[at], shorn[at]);
+                    best = length > most ? w : best;
+                    most = Math.max(length, most);
                 }
             }
             return best;
@@ -1455,8 +1465,8 @@ public final class HairProvince {
         private void startStrand(int p, int w) {
             if (isPerson(p) && isWord(w)) {
                 keeps[p] |= 1 << w;
-                lengths[p * MAX_WORDS + w] = 0;
-                ages[p * MAX_WORDS + w] = 0;
+                begun[p * MAX_WORDS + w] = date;
+                shorn[p * MAX_WORDS + w] = date;
             }
         }
 
@@ -1471,13 +1481,13 @@ public final class HairProvince {
             }
             int anew = 0;
             for (int w = 0; w < words && w < MAX_WORDS; w++) {
-                if ((keeps[p] >> w & 1) == 1) {
-                    if (lengths[p * MAX_WORDS + w] >= heard && (knows[barber] >> w & 1) == 0) {
+                if (isKept(p, w)) {
+                    if (strandLength(p, w) >= heard && !isKnown(barber, w)) {
                         anew |= 1 << w;
                         knows[barber] |= 1 << w;
                         startStrand(barber, w);
                     }
-                    lengths[p * MAX_WORDS + w] = 0;
+                    shorn[p * MAX_WORDS + w] = date;
                 }
             }
             cuts++;
@@ -1488,9 +1498,6 @@ public final class HairProvince {
         private int passDays(int days) {
             int before = saidAtDinners;
             for (int i = 0; i < days; i++) {
-                for (int p = 0; p < people && p < MAX_PEOPLE; p++) {
-                    growHead(p);
-                }
                 date++;
                 for (int d = 0; d < dinners && d < MAX_DINNERS; d++) {
                     if (daysSinceDinner(d) == 0) {
@@ -1502,21 +1509,6 @@ public final class HairProvince {
             return saidAtDinners - before;
         }
 
-        private void growHead(int p) {
-            for (int w = 0; w < words && w < MAX_WORDS; w++) {
-                if (isKept(p, w)) {
-                    int at = p * MAX_WORDS + w;
-                    lengths[at] += growthOf(w, ages[at], 1);
-                    ages[at] = Math.min(ages[at] + 1, MAX_AGE);
-                }
-            }
-        }
-
-        /** How much longer a STRAND so old becomes in so many DAYS. */
-        private int growthOf(int w, int age, int days) {
-            return isWord(w) ? grows[w] * Math.min(days, Math.max(0, greys[w] - age)) : 0;
-        }
-
         /** How many DAYS ago a DINNER was due; NONE if there is no such DINNER. */
         private int daysSinceDinner(int d) {
             int every = dinnerFact(d, 2);
@@ -1524,18 +1516,14 @@ public final class HairProvince {
         }
 
         private void blurt(int p, int to) {
-            if (!isPerson(p) || !isPerson(to) || hairOf(p) <= tempers[p]) {
+            if (!isPerson(p) || !isPerson(to)) {
                 return;
             }
-            int w = longestOf(p, ~knows[to]);
-            if (w != NONE) {
-                speak(p, w, to);
+            int sayable = keeps[p] & ~knows[to];
+            if (sayable != 0 && hairKept(p, keeps[p], 0) > tempers[p]) {
+                speak(p, longestOf(p, sayable), to);
                 saidAtDinners++;
             }
-        }
-
-        private boolean isWild(int p) {
-            return isPerson(p) && hairOf(p) > tempers[p];
         }
 
         private boolean isAt(int d, int p) {
@@ -1560,7 +1548,7 @@ public final class HairProvince {
             for (int w = 0; w < words && w < MAX_WORDS; w++) {
                 if ((set >> w & 1) == 1 && isKept(p, w)) {
                     int at = p * MAX_WORDS + w;
-                    hair += lengths[at] + growthOf(w, ages[at], days);
+                    hair += lengthOn(date + days, w, begun[at], shorn[at]);
                 }
             }
             return hair;
@@ -1590,7 +1578,7 @@ public final class HairProvince {
             int sum = 0;
             for (int w = 0; w < words && w < MAX_WORDS; w++) {
                 if ((set >> w & 1) == 1) {
-                    sum += growthOf(w, 0, days);
+                    sum += lengthOn(days, w, 0, 0);
                 }
             }
             return sum;
@@ -2163,7 +2151,7 @@ public final class HairProvince {
         /** Each set is as long as that without its last WORD, and this WORD; that of none is 0 long. */
         private void measure(Province p, int days) {
             for (int w = 0; w < p.words && w < MAX_WORDS; w++) {
-                int growth = p.growthOf(w, 0, days);
+                int growth = p.lengthOn(days, w, 0, 0);
                 for (int set = 0; set < 1 << w; set++) {
                     lengths[set | 1 << w] = lengths[set] + growth;
                 }
@@ -2355,8 +2343,8 @@ public final class HairProvince {
         /** Level by level: the first, the second. */
         private final int[] knows = new int[HEADS];
         private final int[] keeps = new int[HEADS];
-        private final int[] lengths = new int[HEADS * MAX_WORDS];
-        private final int[] ages = new int[HEADS * MAX_WORDS];
+        private final int[] begun = new int[HEADS * MAX_WORDS];
+        private final int[] shorn = new int[HEADS * MAX_WORDS];
         /** The first's first WORD by best play; NONE if he says nothing. */
         private int opening;
 
@@ -2373,14 +2361,14 @@ public final class HairProvince {
         private void seat(Province p, int person, int head) {
             knows[head] = p.knows[person];
             keeps[head] = p.keeps[person];
-            System.arraycopy(p.lengths, person * MAX_WORDS, lengths, head * MAX_WORDS, MAX_WORDS);
-            System.arraycopy(p.ages, person * MAX_WORDS, ages, head * MAX_WORDS, MAX_WORDS);
+            System.arraycopy(p.begun, person * MAX_WORDS, begun, head * MAX_WORDS, MAX_WORDS);
+            System.arraycopy(p.shorn, person * MAX_WORDS, shorn, head * MAX_WORDS, MAX_WORDS);
         }
 
         private static int best(Duel d, Province p, int level, int turns) {
             int head = level * SIDES;
             if (level >= turns || level >= MAX_GAME_TURNS) {
-                return d.hairAt(p, head + 1) - d.hairAt(p, head);
+                return d.hairAt(p, level, 1) - d.hairAt(p, level, 0);
             }
             int side = level % SIDES;
             int best = 0;
@@ -2415,42 +2403,34 @@ public final class HairProvince {
                 copyHead(level * SIDES + i, nextHead + i);
             }
             if (w < p.words) {
-                pass(nextHead + side, nextHead + 1 - side, w);
-            }
-            for (int i = 0; i < SIDES; i++) {
-                growHead(p, nextHead + i);
+                pass(nextHead + side, nextHead + 1 - side, w, p.date + level);
             }
         }
 
         private void copyHead(int from, int to) {
             knows[to] = knows[from];
             keeps[to] = keeps[from];
-            System.arraycopy(lengths, from * MAX_WORDS, lengths, to * MAX_WORDS, MAX_WORDS);
-            System.arraycopy(ages, from * MAX_WORDS, ages, to * MAX_WORDS, MAX_WORDS);
+            System.arraycopy(begun, from * MAX_WORDS, begun, to * MAX_WORDS, MAX_WORDS);
+            System.arraycopy(shorn, from * MAX_WORDS, shorn, to * MAX_WORDS, MAX_WORDS);
         }
 
-        private void pass(int from, int to, int w) {
+        private void pass(int from, int to, int w, int date) {
             keeps[from] &= ~(1 << w);
             knows[to] |= 1 << w;
             keeps[to] |= 1 << w;
-            lengths[to * MAX_WORDS + w] = 0;
-            ages[to * MAX_WORDS + w] = 0;
+            begun[to * MAX_WORDS + w] = date;
+            shorn[to * MAX_WORDS + w] = date;
         }
 
-        private void growHead(Province p, int head) {
+        /** A turn is a DAY: so many have gone by. */
+        private int hairAt(Province p, int level, int side) {
+            int head = level * SIDES + side;
+            int hair = 0;
             for (int w = 0; w < p.words && w < MAX_WORDS; w++) {
                 if ((keeps[head] >> w & 1) == 1) {
                     int at = head * MAX_WORDS + w;
-                    lengths[at] += p.growthOf(w, ages[at], 1);
-                    ages[at] = Math.min(ages[at] + 1, MAX_AGE);
+                    hair += p.lengthOn(p.date + level, w, begun[at], shorn[at]);
                 }
-            }
-        }
-
-        private int hairAt(Province p, int head) {
-            int hair = 0;
-            for (int w = 0; w < p.words && w < MAX_WORDS; w++) {
-                hair += (keeps[head] >> w & 1) == 1 ? lengths[head * MAX_WORDS + w] : 0;
             }
             return hair;
         }
