@@ -576,7 +576,7 @@ public final class HairProvince {
         int best = MAX_EVERY + 1;
         for (int i = 0; i < now.dinners; i++) {
             if (now.isAt(i, person)) {
-                best = Math.min(best, now.dinnerFact(i, 2) - now.daysSinceDinner(i));
+                best = Math.min(best, now.daysTillDinner(i));
             }
         }
         return best > MAX_EVERY ? fail(NOTHING) : give(best);
@@ -960,6 +960,7 @@ public final class HairProvince {
 
         /** LETTERS that are no NAME; those below are their numbers along this row. */
         private static final String KEYS = "heard odds word grows grey person temper barber keeps dinner every halves day keep say to cut by any when knows hair loop end stop ";
+        private static final int ALL_KEYS = 25;
         private static final int HEARD = 0;
         private static final int ODDS = 1;
         private static final int WORD = 2;
@@ -986,6 +987,8 @@ public final class HairProvince {
         private static final int CLOSE = 23;
         private static final int STOP = 24;
 
+        /** KEYS as codes of LETTERS, so that a text's are found by one number each. */
+        private final long[] keyCodes = new long[ALL_KEYS];
         private final byte[] tape = new byte[MAX_TAPE];
         private int tapeSize;
         private int length;
@@ -1000,6 +1003,25 @@ public final class HairProvince {
         private long takenValue;
         private int fault;
         private int faultPlace = NONE;
+
+        private Tokens() {
+            int key = 0;
+            long code = 0;
+            for (int i = 0; i < KEYS.length() && key < ALL_KEYS; i++) {
+                if (KEYS.charAt(i) == ' ') {
+                    keyCodes[key] = code;
+                    key++;
+                    code = 0;
+                } else {
+                    code = codeWith(code, KEYS.charAt(i));
+                }
+            }
+        }
+
+        /** LETTERS are numbers in twenty-sevens, none of them 0, so that no two are one number. */
+        private static long codeWith(long code, int letter) {
+            return code * 27 + letter - 'a' + 1;
+        }
 
         private void putBytes(int four) {
             for (int shift = 24; shift >= 0 && tapeSize < MAX_TAPE; shift -= 8) {
@@ -1054,42 +1076,26 @@ public final class HairProvince {
             int to = from;
             long code = 0;
             while (to < length && isLetter(byteAt(to))) {
-                code = code * 27 + byteAt(to) - 'a' + 1;
+                code = codeWith(code, byteAt(to));
                 to++;
             }
-            int key = findKey(from, to - from);
-            if (key != NONE) {
-                add(KEY, from, key);
-            } else if (to - from <= MAX_LETTERS) {
-                add(NAME, from, code);
-            } else {
+            // The code of more LETTERS than a NAME's may have gone round.
+            if (to - from > MAX_LETTERS) {
                 add(LONG_LETTERS, from, 0);
+                return to;
             }
+            int key = findKey(code);
+            add(key == NONE ? NAME : KEY, from, key == NONE ? code : key);
             return to;
         }
 
-        private int findKey(int from, int many) {
-            int key = 0;
-            int start = 0;
-            for (int i = 0; i < KEYS.length(); i++) {
-                if (KEYS.charAt(i) == ' ') {
-                    if (i - start == many && isSame(start, from, many)) {
-                        return key;
-                    }
-                    key++;
-                    start = i + 1;
+        private int findKey(long code) {
+            for (int key = 0; key < ALL_KEYS; key++) {
+                if (keyCodes[key] == code) {
+                    return key;
                 }
             }
             return NONE;
-        }
-
-        private boolean isSame(int start, int from, int many) {
-            for (int i = 0; i < many && start + i < KEYS.length(); i++) {
-                if (KEYS.charAt(start + i) != byteAt(from + i)) {
-                    return false;
-                }
-            }
-            return true;
         }
 
         private int splitNumber(int from) {
@@ -1500,19 +1506,22 @@ public final class HairProvince {
             for (int i = 0; i < days; i++) {
                 date++;
                 for (int d = 0; d < dinners && d < MAX_DINNERS; d++) {
-                    if (daysSinceDinner(d) == 0) {
-                        blurt(dinnerFact(d, 0), dinnerFact(d, 1));
-                        blurt(dinnerFact(d, 1), dinnerFact(d, 0));
+                    int every = dinnerFacts[d * DINNER_FACTS + 2];
+                    if (every > 0 && date % every == 0) {
+                        int first = dinnerFacts[d * DINNER_FACTS];
+                        int second = dinnerFacts[d * DINNER_FACTS + 1];
+                        blurt(first, second);
+                        blurt(second, first);
                     }
                 }
             }
             return saidAtDinners - before;
         }
 
-        /** How many DAYS ago a DINNER was due; NONE if there is no such DINNER. */
-        private int daysSinceDinner(int d) {
+        /** In how many DAYS a DINNER is next; NONE if there is no such DINNER. */
+        private int daysTillDinner(int d) {
             int every = dinnerFact(d, 2);
-            return every > 0 ? date % every : NONE;
+            return every > 0 ? every - date % every : NONE;
         }
 
         private void blurt(int p, int to) {
