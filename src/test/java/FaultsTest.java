@@ -278,6 +278,11 @@ public final class FaultsTest {
             C.provinceFault(x(), before + "18446744073709551617;", 1, before.length());
             C.province(x(), before + "0001;");
         }
+        // In twenty-sevens, and of 64 bits, these are the numbers of heard, odds, any and stop.
+        C.provinceFault(x(), "dnxhqojvfwzwnb 3;", 2, 0);
+        C.provinceFault(x(), "ibuqhcuqmedtwo 3;", 2, 0);
+        C.yearsFault(x(), "dnxhqojvfouwjw;", 2, 0);
+        C.yearsFault(x(), "ibuqhcuqmeijgl;", 2, 0);
         // NAMES that differ in their last letters, or in how many these are, are unlike.
         C.province(x(), "word a;word aa;word aaa;word aaaaaaaa;word aaaaaaab;word zzzzzzzz;word zzzzzzzy;word z;"
             + "person b;person ba;person ab;person az;person bz;person zzzzzzz;");
